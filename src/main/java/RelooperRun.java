@@ -189,8 +189,9 @@ public final class RelooperRun {
         visitCounts[block]++;
         lastBlock = block;
         int first = block * SLOTS_PER_BLOCK;
-        for (int i = 0; i < assignmentCounts[block]; i++) {
-            carryOut(first + i);
+        int end = first + assignmentCounts[block];
+        for (int slot = first; slot < end; slot++) {
+            carryOut(slot);
         }
     }
 
