@@ -4,7 +4,8 @@ import java.util.function.Supplier;
 
 /**
  * One test for each sentence of the document that names a boundary case. A test is told by the
- * promise's number and the document's own words, and is printed if the sentence does not hold.
+ * promise's number, the sentence and, where it has several, the case; what is not as due is printed
+ * with it.
  *
  * A refused call is also tested to have changed nothing: the object is compared with one that was
  * not given the call, through every answer, every block's assignments and every block's end.
@@ -24,6 +25,8 @@ public final class BoundaryTest {
     private static final int[] NOT_VARIABLES = {-1, 4, 5, -4, 256, 65536, -65536, LEAST, GREATEST};
     private static final int[] NOT_OPS = {-1, 6, 7, -6, 256, 65536, -65536, LEAST, GREATEST};
     private static final int[] NOT_BACKS = {-1, 16, 17, -16, 256, 65536, -65536, LEAST, GREATEST};
+
+    private static final List<Call> QUESTIONS = questions();
 
     private static int tests = 0;
     private static int wrong = 0;
@@ -208,9 +211,10 @@ public final class BoundaryTest {
         x.assign(4, SET, 3, 9);
         x.assign(4, OUT, 3, 0);
         x.assign(4, SUB, 2, 3);
-        x.branch(4, 3, 9, 0);
+        x.branch(4, 0, 9, 0);
         x.go(5, 5);
         x.assign(9, INC, 3, 2);
+        x.assign(9, OUT, 3, 0);
         return x;
     }
 
@@ -242,13 +246,15 @@ public final class BoundaryTest {
         }
     }
 
-    /** Each look takes an object of its own, as looking at a block means to run it. */
+    /** Each look takes an object of its own, as a look that is wrong could hide what another shows. */
     private static List<Integer> everything(Supplier<RelooperRun> made) {
         List<Integer> seen = new ArrayList<>();
-        RelooperRun x = made.get();
-        addAnswers(seen, x);
-        seen.add(x.run());
-        addAnswers(seen, x);
+        for (Call question : QUESTIONS) {
+            seen.add(question.on(made.get()));
+            RelooperRun x = made.get();
+            seen.add(x.run());
+            seen.add(question.on(x));
+        }
         for (int block = 0; block < 10; block++) {
             addAssignments(seen, made.get(), block);
             for (int signs = 0; signs < 16; signs++) {
@@ -258,19 +264,29 @@ public final class BoundaryTest {
         return seen;
     }
 
+    /** Every call that answers something of the state, with every argument that is not wrong. */
+    private static List<Call> questions() {
+        List<Call> all = new ArrayList<>();
+        for (int i = 0; i < 16; i++) {
+            int number = i;
+            all.add(x -> x.output(number));
+            if (number < 10) {
+                all.add(x -> x.visits(number));
+            }
+            if (number < 4) {
+                all.add(x -> x.get(number));
+            }
+        }
+        all.add(RelooperRun::outputs);
+        all.add(RelooperRun::last);
+        all.add(RelooperRun::reachable);
+        return all;
+    }
+
     private static void addAnswers(List<Integer> seen, RelooperRun x) {
-        for (int v = 0; v < 4; v++) {
-            seen.add(x.get(v));
+        for (Call question : QUESTIONS) {
+            seen.add(question.on(x));
         }
-        seen.add(x.outputs());
-        for (int back = 0; back < 16; back++) {
-            seen.add(x.output(back));
-        }
-        for (int block = 0; block < 10; block++) {
-            seen.add(x.visits(block));
-        }
-        seen.add(x.last());
-        seen.add(x.reachable());
     }
 
     private static void addAssignments(List<Integer> seen, RelooperRun x, int block) {
@@ -290,7 +306,6 @@ public final class BoundaryTest {
 
     private static void addEnd(List<Integer> seen, RelooperRun x, int block, int signs) {
         for (int other = 0; other < 10; other++) {
-            x.empty(other);
             if (other != block) {
                 x.stop(other);
             }
@@ -298,8 +313,9 @@ public final class BoundaryTest {
         if (block != 0) {
             x.go(0, block);
         }
+        // So large that the program's assignments leave room for both ways of every IF.
         for (int v = 0; v < 4; v++) {
-            x.set(v, (signs >> v) & 1);
+            x.set(v, ((signs >> v) & 1) == 1 ? 1000 << v : -1000 << v);
         }
         seen.add(x.run());
         addAnswers(seen, x);
