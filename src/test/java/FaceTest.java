@@ -1,9 +1,11 @@
 import java.lang.reflect.Constructor;
+import java.lang.reflect.Executable;
 import java.lang.reflect.Field;
 import java.lang.reflect.Method;
 import java.lang.reflect.Modifier;
 import java.util.Arrays;
 import java.util.Set;
+import java.util.StringJoiner;
 import java.util.TreeSet;
 
 /** The class shows the face of the document, and nothing else that is not private. */
@@ -16,20 +18,20 @@ public final class FaceTest {
         "field public static final int FULL",
         "field public static final int STOPPED",
         "field public static final int CUT_OFF",
-        "constructor public 0",
-        "method public int assign 4",
-        "method public int empty 1",
-        "method public int stop 1",
-        "method public int go 2",
-        "method public int branch 4",
-        "method public int set 2",
-        "method public int run 0",
-        "method public int get 1",
-        "method public int outputs 0",
-        "method public int output 1",
-        "method public int visits 1",
-        "method public int last 0",
-        "method public int reachable 0"));
+        "constructor public ()",
+        "method public int assign(int, int, int, int)",
+        "method public int empty(int)",
+        "method public int stop(int)",
+        "method public int go(int, int)",
+        "method public int branch(int, int, int, int)",
+        "method public int set(int, int)",
+        "method public int run()",
+        "method public int get(int)",
+        "method public int outputs()",
+        "method public int output(int)",
+        "method public int visits(int)",
+        "method public int last()",
+        "method public int reachable()"));
 
     public static void main(String[] args) {
         Set<String> found = face();
@@ -61,14 +63,23 @@ public final class FaceTest {
             }
         }
         for (Constructor<?> made : type.getDeclaredConstructors()) {
-            found.add("constructor " + Modifier.toString(made.getModifiers()) + " " + made.getParameterCount());
+            found.add("constructor " + Modifier.toString(made.getModifiers()) + " "
+                + parameters(made));
         }
         for (Method method : type.getDeclaredMethods()) {
             if (!Modifier.isPrivate(method.getModifiers())) {
                 found.add("method " + Modifier.toString(method.getModifiers()) + " " + method.getReturnType() + " "
-                    + method.getName() + " " + method.getParameterCount());
+                    + method.getName() + parameters(method));
             }
         }
         return found;
+    }
+
+    private static String parameters(Executable called) {
+        StringJoiner types = new StringJoiner(", ", "(", ")");
+        for (Class<?> type : called.getParameterTypes()) {
+            types.add(type.toString());
+        }
+        return types.toString();
     }
 }
